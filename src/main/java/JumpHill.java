@@ -63,7 +63,7 @@ public final class JumpHill {
     }
 
     public int rule(int what) {
-        return what >= 0 && what < Rules.LETTERS ? scorer.rules.number(what) : NONE;
+        return Rules.isLetter(what) ? scorer.rules.number(what) : NONE;
     }
 
     public int jumper(int team) {
@@ -405,8 +405,12 @@ public final class JumpHill {
             System.arraycopy(FIRST, 0, numbers, 0, LETTERS);
         }
 
+        private static boolean isLetter(int what) {
+            return what >= 0 && what < LETTERS;
+        }
+
         private int number(int what) {
-            return what >= 0 && what < LETTERS ? numbers[what] : 0;
+            return isLetter(what) ? numbers[what] : 0;
         }
 
         /** The first n bytes of the text become the RULES: 0, or the FAULT with its place. */
@@ -417,9 +421,9 @@ public final class JumpHill {
             int value = 0;
             for (int at = 0; at <= n; at++) {
                 int sign = at < n && at < text.length ? text[at] : END;
-                if (letter < 0) {
+                if (!isLetter(letter)) {
                     letter = letterOf(sign);
-                    if (letter < 0) {
+                    if (!isLetter(letter)) {
                         return NO_LETTER + at;
                     }
                     digits = 0;

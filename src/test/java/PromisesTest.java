@@ -309,6 +309,8 @@ public final class PromisesTest {
         due("9 mean of least", x.points(3, 0, 0, 7), -999);
         due("9 mean of ROUND 1", x.points(3, 23, 1, 7), 999);
         due("9 mean of failed", x.points(3, 23, 0, 7), 0);
+        due("9 first of ROUND 1", x.wind(32, 7, 7, 7, 7, 7), 3);
+        due("9 mean of the first in ROUND 1", x.points(4, 0, 1, 7), 7);
         for (int j : new int[] {-1, -32, 24, 31, 56, 63, 64, 96, Integer.MAX_VALUE, Integer.MIN_VALUE}) {
             due("9 no such " + j, x.wind(j, 0, 0, 0, 0, 0), NONE);
         }
@@ -319,7 +321,7 @@ public final class PromisesTest {
             due("9 d", x.wind(0, 0, 0, 0, read, 0), NONE);
             due("9 e", x.wind(0, 0, 0, 0, 0, read), NONE);
         }
-        due("9 refused ones are no ENTRIES", now(x), 3);
+        due("9 refused ones are no ENTRIES", now(x), 4);
         int[] weights = {1, 2, 3, 4, 9};
         for (int s = 0; s < 5; s++) {
             x.sensor(s, weights[s]);
@@ -348,6 +350,7 @@ public final class PromisesTest {
         due("10 only the greatest", x.points(7, 0, 0, 2), 0);
         x.style(0, 0, 40, 40, 0, 0);
         due("10 one of each", x.points(8, 0, 0, 2), 400);
+        due("10 first of ROUND 1", x.style(32, 40, 40, 40, 40, 40), 8);
         for (int mark : new int[] {-1, 41}) {
             due("10 a", x.style(0, mark, 0, 0, 0, 0), NONE);
             due("10 b", x.style(0, 0, mark, 0, 0, 0), NONE);
@@ -358,7 +361,11 @@ public final class PromisesTest {
         for (int j : new int[] {-1, 2, 31, 34, 64, 65}) {
             due("10 no such " + j, x.style(j, 0, 0, 0, 0, 0), NONE);
         }
-        due("10 refused ones are no ENTRIES", now(x), 8);
+        due("10 refused ones are no ENTRIES", now(x), 9);
+        JumpHill y = hill(1);
+        y.style(0, 20, 20, 20, 20, 20);
+        y.reading(0, 0, 240, 20, false);
+        due("10 told before the READING", y.points(2, 0, 0, 2), 600);
     }
 
     private static void strike() {
@@ -382,6 +389,11 @@ public final class PromisesTest {
         due("11 no round", x.strike(0, 2, true), NONE);
         due("11 no round -1", x.strike(1, -1, true), NONE);
         due("11 refused ones are no ENTRIES", now(x), 7);
+        JumpHill y = hill(1);
+        due("11 before the READING", y.strike(0, 0, true), 0);
+        y.reading(0, 0, 240, 20, false);
+        due("11 the first ENTRY counts", y.points(2, 0, 0, 0), NONE);
+        due("11 and is known now", y.strike(0, 0, true), NONE);
     }
 
     private static void points() {
@@ -445,6 +457,11 @@ public final class PromisesTest {
         x.reading(0, 0, 240, 50, false);
         x.base(1);
         due("12 far above BASE", x.points(7, 0, 0, 3), -9800);
+        tell(x, "k600;m99;g999");
+        x.reading(0, 0, 0, 1, false);
+        x.base(50);
+        due("12 GATE alone", x.points(8, 0, 0, 0), 1200 - 99 * 600 + 2 * 999 * 49);
+        due("12 WORTH of GATE is all there is", x.points(8, 0, 0, 5), 1200 - 99 * 600 + 2 * 999 * 49);
     }
 
     private static void pointsOfWind() {
@@ -547,6 +564,9 @@ public final class PromisesTest {
         due("14 only who is THROUGH gets ROUND 1", listOf(x, 8), 0, 6, 1, 2, 4, 3);
         due("14 as it was known", listOf(x, 3), 1, 0, 2);
         due("14 by nothing", listOf(x, 0));
+        tell(x, "k600;m99");
+        due("14 those with 0 by numbers", listOf(x, 8), 0, 1, 2, 3, 4, 6);
+        tell(x, "k100;m10;c3;t0");
         due("14 i -1", x.list(8, -1), NONE);
         due("14 i behind", x.list(8, 6), NONE);
         due("14 i far behind", x.list(8, Integer.MAX_VALUE), NONE);
@@ -629,11 +649,30 @@ public final class PromisesTest {
         due("17 ROUND 1 without ROUND 0", x.record(1), 1);
         due("17 what -1", x.record(-1), NONE);
         due("17 what 2", x.record(2), NONE);
+        x.reading(2, 0, 261, 20, false);
+        due("17 by one half metre", x.record(1), 2);
+        x.reading(1, 1, 262, 20, false);
+        due("17 by one half metre more", x.record(1), 1);
+        for (int i = 0; i < 5; i++) {
+            JumpHill z = hill(1);
+            z.reading(0, 0, 250, 20, false);
+            z.style(0, i == 0 ? 19 : 40, i == 1 ? 19 : 40, i == 2 ? 19 : 40, i == 3 ? 19 : 40, i == 4 ? 19 : 40);
+            due("17 mark " + i, z.record(0), NONE);
+        }
+        JumpHill last = hill(24);
+        last.reading(23, 1, 250, 20, false);
+        last.style(55, 20, 20, 20, 20, 20);
+        due("17 last JUMP", last.record(1), 23);
         JumpHill y = hill(3);
         y.reading(2, 0, 0, 20, false);
         y.style(2, 20, 20, 20, 20, 20);
         due("17 LENGTH 0", y.record(0), 0);
         due("17 JUMPER of LENGTH 0", y.record(1), 2);
+        y.close();
+        due("17 LENGTH 0 of a CLOSED one", y.record(0), 0);
+        y.reading(1, 0, 0, 20, false);
+        y.style(1, 20, 20, 20, 20, 20);
+        due("17 CLOSED with LENGTH 0 is before", y.record(1), 2);
     }
 
     private static void recordOfClosed() {
@@ -661,6 +700,10 @@ public final class PromisesTest {
         x.style(0, 30, 30, 30, 30, 30);
         x.close();
         due("17 a lesser one is none", x.record(0), 251);
+        x.reading(0, 0, 300, 20, false);
+        x.style(0, 30, 30, 30, 30, 30);
+        x.close();
+        due("17 of the first JUMPER", x.record(1), 0);
     }
 
     private static void differ() {
@@ -750,6 +793,8 @@ public final class PromisesTest {
         due("20 CLOSED", x.count(2), 1);
         due("20 nobody on THE LIST", x.count(4), 0);
         due("20 nobody THROUGH", x.count(5), 0);
+        x.reading(0, 0, 120, 20, false);
+        due("20 one THROUGH", x.count(5), 1);
     }
 
     /** Questions about what was known before don't change what is known later. */
