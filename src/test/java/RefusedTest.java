@@ -71,6 +71,7 @@ public final class RefusedTest {
                 compare(state, calls);
             }
             compareQuestions(state);
+            compareBesideAnother(state);
         }
         faults();
         System.out.println(wrong == 0 ? "RefusedTest: nothing has changed" : "RefusedTest: " + wrong + " wrong");
@@ -493,6 +494,49 @@ public final class RefusedTest {
             return 31 * (31 * sum + x.count(2)) + x.reading(0, 0, 250, 20, false);
         }, 0));
         return all;
+    }
+
+    /** All memory is the hill's own: it answers alike before and behind what another is told. */
+    private static void compareBesideAnother(State s) {
+        List<Call> questions = questions(s);
+        for (int from = 0; from < questions.size(); from += QUESTIONS_A_HILL / 2) {
+            List<Call> some = questions.subList(from, Math.min(questions.size(), from + QUESTIONS_A_HILL / 2));
+            JumpHill x = s.made();
+            int[] before = some.stream().mapToInt(question -> question.on.applyAsInt(x)).toArray();
+            tellAnother();
+            for (int i = 0; i < before.length; i++) {
+                if (some.get(i).on.applyAsInt(x) != before[i]) {
+                    fails(s.name + ": another hill was told, and then otherwise: " + some.get(i).name);
+                }
+            }
+        }
+        for (Call deed : deeds(s)) {
+            int alone = deed.on.applyAsInt(s.made());
+            JumpHill x = s.made();
+            tellAnother();
+            if (deed.on.applyAsInt(x) != alone) {
+                fails(s.name + ": another hill was told, and then otherwise: " + deed.name);
+            }
+        }
+    }
+
+    private static void tellAnother() {
+        JumpHill x = new JumpHill();
+        for (int j = 0; j < 24; j++) {
+            x.jumper((j + 1) % 6);
+        }
+        feedText(x, "k100;m1;w2;g3;h4;c5;");
+        x.rules(19);
+        x.base(3);
+        for (int n = 0; n < 150; n++) {
+            x.sensor(n % 5, n % 10);
+            x.reading(n % 24, n / 24 % 2, 3 * n, 1 + n % 50, n % 2 == 0);
+            x.style(n % 24, 21, 22, 23, 24, 25);
+            if (n == 60) {
+                x.close();
+            }
+        }
+        feedText(x, SIXTY.replace(';', '+'));
     }
 
     /** A text with a FAULT changes the tape, and nothing else. */
