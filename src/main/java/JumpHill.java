@@ -452,10 +452,14 @@ public final class JumpHill {
             if (digits == 0) {
                 return NO_DIGIT + at;
             }
-            if (value < LEAST[letter] || value > GREATEST[letter]) {
+            if (!canBe(letter, value)) {
                 return BAD_NUMBER + at - digits;
             }
             return sign == ';' || sign == END ? 0 : NO_CLAUSE_END + at;
+        }
+
+        private static boolean canBe(int letter, int value) {
+            return isLetter(letter) && value >= LEAST[letter] && value <= GREATEST[letter];
         }
 
         private static int letterOf(int sign) {
